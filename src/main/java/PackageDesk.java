@@ -89,7 +89,6 @@ public final class PackageDesk {
             return NONE;
         }
         offered[cell] = false;
-        demandCount[cell] = 0;
         versionCount[pack]--;
         return versionCount[pack];
     }

@@ -15,6 +15,7 @@ public final class GenerationTest {
         collectAnswers(check);
         collectSparesTheCurrentOne(check);
         collectRefuses(check);
+        allPackagesAreKept(check);
         check.finish();
     }
 
@@ -223,6 +224,34 @@ public final class GenerationTest {
                 check.due("what it gives", desk.version(current, 0), current);
             }
         }
+    }
+
+    /** Generations 1 .. 8, the second to the fifth package all with versions of their own. */
+    private static void allPackagesAreKept(Check check) {
+        PackageDesk desk = new PackageDesk();
+        for (int i = 1; i <= 8; i++) {
+            for (int pack = 1; pack < 5; pack++) {
+                int version = 1 + (i + pack) % 9;
+                desk.offer(pack, version, 0);
+                desk.wish(true, pack, 11 * version);
+            }
+            desk.solve();
+            check.due("apply", desk.apply(-1), i);
+            for (int pack = 1; pack < 5; pack++) {
+                desk.unwish(0);
+                desk.withdraw(pack, 1 + (i + pack) % 9);
+            }
+        }
+        kept(check, desk, 3, 4, 5, 6, 7, 8);
+        check.generation(desk, 3, "05678");
+        check.generation(desk, 4, "06789");
+        check.generation(desk, 5, "07891");
+        check.generation(desk, 8, "01234");
+        check.due("rollback", desk.rollback(4), 4);
+        check.due("collect", desk.collect(2), 3);
+        check.generation(desk, 4, "06789");
+        check.generation(desk, 7, "09123");
+        check.generation(desk, 8, "01234");
     }
 
     private static void collectRefuses(Check check) {

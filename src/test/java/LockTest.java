@@ -125,6 +125,21 @@ public final class LockTest {
         desk.withdraw(2, 9);
         check.due("a choice has versions of the index alone", desk.reuse(), 1);
         check.plan(desk, "00100");
+        for (int pack = 0; pack < 5; pack++) {
+            PackageDesk gone = new PackageDesk();
+            for (int each = 0; each < 5; each++) {
+                gone.offer(each, 5, 0);
+                gone.demand(true, 10 * each + 5, (each + 1) % 5, 55);
+            }
+            gone.wish(true, 0, 55);
+            check.due("all five", gone.solve(), 5);
+            gone.lock();
+            check.due("reuse", gone.reuse(), 10);
+            gone.withdraw(pack, 5);
+            gone.offer(pack, 4, 0);
+            gone.offer(pack, 6, 0);
+            check.due("without version 5 of " + pack, gone.reuse(), NONE);
+        }
         PackageDesk clash = new PackageDesk();
         clash.offer(2, 9, 1);
         clash.offer(1, 3, 0);

@@ -16,6 +16,7 @@ public final class SolveTest {
         chosenRefuses(check);
         possibleAnswers(check);
         questionsKeepThePlan(check);
+        questionsAfterAWithdrawal(check);
         blameAnswers(check);
         blameTakesTheFewestThenTheLeast(check);
         check.finish();
@@ -111,6 +112,11 @@ public final class SolveTest {
         check.due("all three", desk.solve(), NONE);
         desk.unwish(0);
         check.due("2 and 4", desk.solutions(), 2);
+        PackageDesk apart = new PackageDesk();
+        apart.offer(0, 1, 3);
+        apart.offer(1, 1, 4);
+        apart.offer(3, 1, 1);
+        check.due("another package between the two", apart.solutions(), 6);
         PackageDesk same = new PackageDesk();
         same.offer(1, 1, 4);
         same.offer(1, 2, 4);
@@ -190,6 +196,27 @@ public final class SolveTest {
         check.plan(desk, "30000");
     }
 
+    private static void questionsAfterAWithdrawal(Check check) {
+        PackageDesk desk = new PackageDesk();
+        desk.offer(0, 4, 0);
+        desk.wish(true, 0, 19);
+        desk.solve();
+        desk.withdraw(0, 4);
+        check.due("blame", desk.blame(), 1);
+        desk.offer(0, 4, 0);
+        desk.solve();
+        desk.withdraw(0, 4);
+        check.due("solutions", desk.solutions(), 0);
+        desk.offer(0, 4, 0);
+        desk.solve();
+        desk.withdraw(0, 4);
+        check.due("possible", desk.possible(0, 4), 0);
+        desk.offer(0, 4, 0);
+        desk.solve();
+        desk.withdraw(0, 4);
+        check.due("solve", desk.solve(), NONE);
+    }
+
     private static void blameAnswers(Check check) {
         PackageDesk desk = new PackageDesk();
         desk.offer(0, 1, 1);
@@ -235,6 +262,12 @@ public final class SolveTest {
         fewest.wish(false, 1, 11);
         fewest.wish(true, 1, 11);
         check.due("8 alone is fewer than 3", fewest.blame(), 8);
+        fewest.unwish(0);
+        fewest.unwish(0);
+        fewest.wish(true, 2, 22);
+        check.due("of 2 and 4 the lesser", fewest.blame(), 2);
+        fewest.unwish(0);
+        check.due("of 1 and 2 the lesser", fewest.blame(), 1);
 
         PackageDesk three = new PackageDesk();
         three.offer(0, 1, 0);

@@ -14,6 +14,8 @@ public final class StepsTest {
         packagesThatStayCount(check);
         indexOfNowCounts(check);
         needOnOneWithoutVersion(check);
+        demandsThatAreGoneDoNotCount(check);
+        allTenSteps(check);
         check.finish();
     }
 
@@ -140,6 +142,35 @@ public final class StepsTest {
         desk.offer(0, 9, 0);
         desk.demand(true, 9, 3, 44);
         check.steps(desk, 212, 223, 201, 234);
+    }
+
+    private static void demandsThatAreGoneDoNotCount(Check check) {
+        PackageDesk desk = full();
+        desk.demand(true, 1, 3, 44);
+        desk.solve();
+        desk.withdraw(0, 1);
+        desk.offer(0, 1, 0);
+        check.steps(desk, 201, 212, 223, 234);
+        desk.demand(false, 1, 2, 99);
+        check.steps(desk, 201, 212, 223, 234);
+    }
+
+    private static void allTenSteps(Check check) {
+        PackageDesk desk = full();
+        desk.demand(true, 23, 4, 55);
+        desk.solve();
+        desk.apply(-1);
+        for (int pack = 0; pack < 5; pack++) {
+            desk.withdraw(pack, pack + 1);
+            desk.offer(pack, 9 - pack, 0);
+        }
+        desk.offer(4, 6, 0);
+        desk.demand(true, 27, 4, 66);
+        check.due("solve", desk.solve(), 5);
+        check.plan(desk, "98766");
+        check.steps(desk, 145, 134, 123, 112, 101, 209, 218, 236, 246, 227);
+        check.due("a crash before the last", desk.apply(9), NONE);
+        check.due("apply", desk.apply(10), 2);
     }
 
     private static void needOnOneWithoutVersion(Check check) {
