@@ -139,7 +139,18 @@ public final class PackageDesk {
     }
 
     public int solve() {
-        return planBest();
+        int many = countChoices();
+        startTrial();
+        for (int n = 0; n < many; n++) {
+            if (isSolution(trial)) {
+                copyChoice(trial, planned);
+                hasPlan = true;
+                return countGiven(planned);
+            }
+            nextTrial();
+        }
+        hasPlan = false;
+        return NONE;
     }
 
     public int chosen(int pack) {
@@ -215,7 +226,7 @@ public final class PackageDesk {
             hasPlan = true;
             return REUSED;
         }
-        return planBest();
+        return solve();
     }
 
     public int steps() {
@@ -420,21 +431,6 @@ public final class PackageDesk {
             }
         }
         return true;
-    }
-
-    private int planBest() {
-        int many = countChoices();
-        startTrial();
-        for (int n = 0; n < many; n++) {
-            if (isSolution(trial)) {
-                copyChoice(trial, planned);
-                hasPlan = true;
-                return countGiven(planned);
-            }
-            nextTrial();
-        }
-        hasPlan = false;
-        return NONE;
     }
 
     /** Notes for every set of wishes whether some sound choice meets these and no others. */
