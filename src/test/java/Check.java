@@ -2,20 +2,38 @@
 final class Check {
     private int asked = 0;
     private int wrong = 0;
+    private String about = "";
+    private String told = "";
+
+    /** What the answers that follow are about; it is told once, before the first wrong one. */
+    void about(String what) {
+        about = what;
+    }
+
+    int asked() {
+        return asked;
+    }
+
+    private void tell(String line) {
+        wrong++;
+        if (!about.equals(told)) {
+            System.out.println(about);
+            told = about;
+        }
+        System.out.println((about.isEmpty() ? "" : "    ") + line);
+    }
 
     void due(String call, int got, int want) {
         asked++;
         if (got != want) {
-            wrong++;
-            System.out.println(call + " answered " + got + ", due is " + want);
+            tell(call + " answered " + got + ", due is " + want);
         }
     }
 
     void holds(String what, boolean itDoes) {
         asked++;
         if (!itDoes) {
-            wrong++;
-            System.out.println("does not hold: " + what);
+            tell("does not hold: " + what);
         }
     }
 
@@ -28,6 +46,27 @@ final class Check {
         holds("the plan is " + want + " (it is " + got + ")", want.contentEquals(got));
     }
 
+    /** What the lock gives, the packages 0 .. 4 as digits. */
+    void lock(PackageDesk desk, String want) {
+        StringBuilder got = new StringBuilder();
+        for (int pack = 0; pack < 5; pack++) {
+            got.append(desk.locked(pack));
+        }
+        holds("the lock is " + want + " (it is " + got + ")", want.contentEquals(got));
+    }
+
+    void noPlan(PackageDesk desk) {
+        for (int pack = 0; pack < 5; pack++) {
+            due("chosen(" + pack + ")", desk.chosen(pack), PackageDesk.NONE);
+        }
+    }
+
+    void noLock(PackageDesk desk) {
+        for (int pack = 0; pack < 5; pack++) {
+            due("locked(" + pack + ")", desk.locked(pack), PackageDesk.NONE);
+        }
+    }
+
     /** What a kept generation gives, the packages 0 .. 4 as digits. */
     void generation(PackageDesk desk, int number, String want) {
         StringBuilder got = new StringBuilder();
@@ -35,6 +74,16 @@ final class Check {
             got.append(desk.version(number, pack));
         }
         holds("generation " + number + " is " + want + " (it is " + got + ")", want.contentEquals(got));
+    }
+
+    /** That of the generations -1 .. 20 just these are kept. */
+    void kept(PackageDesk desk, int... want) {
+        int next = 0;
+        for (int number = -1; number <= 20; number++) {
+            boolean due = next < want.length && want[next] == number;
+            holds("generation " + number + (due ? " is kept" : " is not kept"), desk.version(number, 1) >= 0 == due);
+            next += due ? 1 : 0;
+        }
     }
 
     /** All steps, and that there is none before the first or after the last. */

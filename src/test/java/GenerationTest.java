@@ -19,34 +19,6 @@ public final class GenerationTest {
         check.finish();
     }
 
-    /** On a desk without wishes, makes a plan that gives package 0 this version and the others none. */
-    private static void planFor(PackageDesk desk, int version) {
-        desk.offer(0, version, 0);
-        desk.wish(true, 0, 11 * version);
-        desk.solve();
-        desk.unwish(0);
-        desk.withdraw(0, version);
-    }
-
-    /** A desk that keeps the generations 0 .. last, generation i giving version i of package 0. */
-    private static PackageDesk keeping(int last) {
-        PackageDesk desk = new PackageDesk();
-        for (int i = 1; i <= last; i++) {
-            planFor(desk, i);
-            desk.apply(-1);
-        }
-        return desk;
-    }
-
-    private static void kept(Check check, PackageDesk desk, int... want) {
-        int next = 0;
-        for (int number = -1; number <= 20; number++) {
-            boolean due = next < want.length && want[next] == number;
-            check.holds("generation " + number + (due ? " is kept" : " is not kept"), desk.version(number, 1) >= 0 == due);
-            next += due ? 1 : 0;
-        }
-    }
-
     private static void applyAnswers(Check check) {
         PackageDesk desk = new PackageDesk();
         check.due("no plan", desk.apply(-1), NONE);
@@ -66,7 +38,7 @@ public final class GenerationTest {
         check.plan(desk, "02009");
         check.due("again", desk.apply(-1), 1);
         check.due("again, with a stop", desk.apply(0), 1);
-        kept(check, desk, 0, 1);
+        check.kept(desk, 0, 1);
         desk.withdraw(1, 2);
         check.due("no solution", desk.solve(), NONE);
         check.due("no plan", desk.apply(-1), NONE);
@@ -83,58 +55,58 @@ public final class GenerationTest {
         check.due("before the first", desk.apply(0), NONE);
         check.due("before the second", desk.apply(1), NONE);
         check.due("current", desk.current(), 0);
-        kept(check, desk, 0);
+        check.kept(desk, 0);
         check.steps(desk, 212, 249);
         check.due("after the last is no crash", desk.apply(2), 1);
         check.due("current", desk.current(), 1);
         desk.unwish(1);
         desk.unwish(0);
-        planFor(desk, 5);
+        Desks.planFor(desk, 5);
         check.steps(desk, 149, 112, 205);
         check.due("between taking away and putting", desk.apply(2), NONE);
         check.generation(desk, 1, "02009");
         check.due("a crash gives no number", desk.apply(Integer.MAX_VALUE), 2);
-        planFor(desk, 6);
+        Desks.planFor(desk, 6);
         check.due("the least int", desk.apply(Integer.MIN_VALUE), 3);
     }
 
     private static void applyDropsTheLeast(Check check) {
-        PackageDesk desk = keeping(5);
-        kept(check, desk, 0, 1, 2, 3, 4, 5);
-        planFor(desk, 6);
+        PackageDesk desk = Desks.keeping(5);
+        check.kept(desk, 0, 1, 2, 3, 4, 5);
+        Desks.planFor(desk, 6);
         check.due("a crash drops none", desk.apply(0), NONE);
-        kept(check, desk, 0, 1, 2, 3, 4, 5);
+        check.kept(desk, 0, 1, 2, 3, 4, 5);
         check.due("apply", desk.apply(2), 6);
-        kept(check, desk, 1, 2, 3, 4, 5, 6);
+        check.kept(desk, 1, 2, 3, 4, 5, 6);
         check.generation(desk, 6, "60000");
         check.generation(desk, 1, "10000");
         check.due("no steps drops none", desk.apply(-1), 6);
-        kept(check, desk, 1, 2, 3, 4, 5, 6);
-        planFor(desk, 7);
+        check.kept(desk, 1, 2, 3, 4, 5, 6);
+        Desks.planFor(desk, 7);
         check.due("apply", desk.apply(-1), 7);
-        kept(check, desk, 2, 3, 4, 5, 6, 7);
+        check.kept(desk, 2, 3, 4, 5, 6, 7);
     }
 
     private static void applySparesTheCurrentOne(Check check) {
-        PackageDesk desk = keeping(5);
+        PackageDesk desk = Desks.keeping(5);
         desk.rollback(0);
-        planFor(desk, 6);
+        Desks.planFor(desk, 6);
         check.due("apply", desk.apply(-1), 6);
-        kept(check, desk, 0, 2, 3, 4, 5, 6);
+        check.kept(desk, 0, 2, 3, 4, 5, 6);
         check.due("current", desk.current(), 6);
-        planFor(desk, 7);
+        Desks.planFor(desk, 7);
         check.due("0 is not current any more", desk.apply(-1), 7);
-        kept(check, desk, 2, 3, 4, 5, 6, 7);
+        check.kept(desk, 2, 3, 4, 5, 6, 7);
         desk.rollback(4);
-        planFor(desk, 8);
+        Desks.planFor(desk, 8);
         check.due("apply", desk.apply(-1), 8);
-        kept(check, desk, 3, 4, 5, 6, 7, 8);
+        check.kept(desk, 3, 4, 5, 6, 7, 8);
         check.generation(desk, 4, "40000");
         check.generation(desk, 8, "80000");
     }
 
     private static void versionRefuses(Check check) {
-        PackageDesk desk = keeping(2);
+        PackageDesk desk = Desks.keeping(2);
         for (int pack : new int[] {-1, 5, Integer.MIN_VALUE, Integer.MAX_VALUE}) {
             check.due("version(1, " + pack + ")", desk.version(1, pack), BAD);
             check.due("bad before none", desk.version(9, pack), BAD);
@@ -167,38 +139,38 @@ public final class GenerationTest {
         check.due("to four", desk.rollback(1), 4);
         check.plan(desk, "43300");
         check.steps(desk, 133, 103, 204);
-        kept(check, desk, 0, 1, 2);
+        check.kept(desk, 0, 1, 2);
         desk.collect(1);
         check.due("kept no more", desk.rollback(0), NONE);
         check.due("current", desk.current(), 1);
     }
 
     private static void numbersGoOn(Check check) {
-        PackageDesk desk = keeping(3);
+        PackageDesk desk = Desks.keeping(3);
         desk.rollback(1);
         check.due("collect", desk.collect(1), 2);
-        kept(check, desk, 1, 3);
-        planFor(desk, 9);
+        check.kept(desk, 1, 3);
+        Desks.planFor(desk, 9);
         check.due("after the greatest kept", desk.apply(-1), 4);
         desk.rollback(1);
         check.due("collect", desk.collect(1), 1);
-        planFor(desk, 1);
+        Desks.planFor(desk, 1);
         check.due("no steps: the current one, not the greatest", desk.apply(-1), 1);
-        planFor(desk, 2);
+        Desks.planFor(desk, 2);
         check.due("a number is given once", desk.apply(-1), 5);
-        kept(check, desk, 1, 4, 5);
+        check.kept(desk, 1, 4, 5);
     }
 
     private static void collectAnswers(Check check) {
-        PackageDesk desk = keeping(5);
+        PackageDesk desk = Desks.keeping(5);
         check.due("collect(6)", desk.collect(6), 0);
         check.due("collect(5)", desk.collect(5), 1);
-        kept(check, desk, 1, 2, 3, 4, 5);
+        check.kept(desk, 1, 2, 3, 4, 5);
         check.due("collect(3)", desk.collect(3), 2);
-        kept(check, desk, 3, 4, 5);
+        check.kept(desk, 3, 4, 5);
         check.due("collect(4)", desk.collect(4), 0);
         check.due("collect(1)", desk.collect(1), 2);
-        kept(check, desk, 5);
+        check.kept(desk, 5);
         check.due("current", desk.current(), 5);
         check.generation(desk, 5, "50000");
     }
@@ -206,7 +178,7 @@ public final class GenerationTest {
     private static void collectSparesTheCurrentOne(Check check) {
         for (int current = 0; current <= 5; current++) {
             for (int many = 1; many <= 6; many++) {
-                PackageDesk desk = keeping(5);
+                PackageDesk desk = Desks.keeping(5);
                 desk.rollback(current);
                 int gone = 0;
                 int[] left = new int[6];
@@ -219,7 +191,7 @@ public final class GenerationTest {
                     }
                 }
                 check.due("collect(" + many + ") at " + current, desk.collect(many), gone);
-                kept(check, desk, java.util.Arrays.copyOf(left, count));
+                check.kept(desk, java.util.Arrays.copyOf(left, count));
                 check.due("current", desk.current(), current);
                 check.due("what it gives", desk.version(current, 0), current);
             }
@@ -242,7 +214,7 @@ public final class GenerationTest {
                 desk.withdraw(pack, 1 + (i + pack) % 9);
             }
         }
-        kept(check, desk, 3, 4, 5, 6, 7, 8);
+        check.kept(desk, 3, 4, 5, 6, 7, 8);
         check.generation(desk, 3, "05678");
         check.generation(desk, 4, "06789");
         check.generation(desk, 5, "07891");
@@ -255,10 +227,10 @@ public final class GenerationTest {
     }
 
     private static void collectRefuses(Check check) {
-        PackageDesk desk = keeping(3);
+        PackageDesk desk = Desks.keeping(3);
         for (int many : new int[] {0, 7, -1, Integer.MIN_VALUE, Integer.MAX_VALUE}) {
             check.due("collect(" + many + ")", desk.collect(many), BAD);
         }
-        kept(check, desk, 0, 1, 2, 3);
+        check.kept(desk, 0, 1, 2, 3);
     }
 }

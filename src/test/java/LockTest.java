@@ -16,32 +16,24 @@ public final class LockTest {
         check.finish();
     }
 
-    private static String lockOf(PackageDesk desk) {
-        StringBuilder digits = new StringBuilder();
-        for (int pack = 0; pack < 5; pack++) {
-            digits.append(desk.locked(pack));
-        }
-        return digits.toString();
-    }
-
     private static void lockAnswers(Check check) {
         PackageDesk desk = new PackageDesk();
         check.due("no plan", desk.lock(), NONE);
         desk.solve();
         check.due("an empty plan", desk.lock(), 0);
-        check.holds("it is locked", lockOf(desk).equals("00000"));
+        check.lock(desk, "00000");
         desk.offer(1, 4, 0);
         desk.offer(3, 2, 0);
         desk.wish(true, 1, 44);
         desk.wish(true, 3, 22);
         desk.solve();
-        check.holds("solve leaves the lock", lockOf(desk).equals("00000"));
+        check.lock(desk, "00000");
         check.due("lock", desk.lock(), 2);
-        check.holds("the new plan is locked", lockOf(desk).equals("04020"));
+        check.lock(desk, "04020");
         desk.withdraw(1, 4);
         check.due("solve", desk.solve(), NONE);
         check.due("lock without a plan", desk.lock(), NONE);
-        check.holds("the lock stays", lockOf(desk).equals("04020"));
+        check.lock(desk, "04020");
     }
 
     private static void lockedRefuses(Check check) {
@@ -79,7 +71,7 @@ public final class LockTest {
         desk.unwish(0);
         check.due("a solution, though not the best", desk.reuse(), 10);
         check.plan(desk, "30000");
-        check.holds("the lock stays", lockOf(desk).equals("30000"));
+        check.lock(desk, "30000");
     }
 
     private static void reuseMakesAPlan(Check check) {
@@ -109,7 +101,7 @@ public final class LockTest {
         desk.demand(true, 3, 4, 19);
         check.due("a new need", desk.reuse(), 1);
         check.plan(desk, "20000");
-        check.holds("the lock stays", lockOf(desk).equals("30000"));
+        check.lock(desk, "30000");
         desk.withdraw(0, 3);
         desk.offer(0, 3, 0);
         check.due("the version has come anew", desk.reuse(), 10);
@@ -159,6 +151,6 @@ public final class LockTest {
         desk.wish(true, 0, 11);
         check.due("reuse", desk.reuse(), NONE);
         check.due("there is no plan then", desk.chosen(0), NONE);
-        check.holds("the lock stays", lockOf(desk).equals("00000"));
+        check.lock(desk, "00000");
     }
 }
