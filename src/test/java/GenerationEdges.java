@@ -353,6 +353,12 @@ final class GenerationEdges {
             check.due("version(" + number + ", 0)", desk.version(number, 0), NONE);
         }
         check.due("version(7, 0)", desk.version(7, 0), 7);
+        PackageDesk few = Desks.keeping(2);
+        few.collect(1);
+        for (int pack = 0; pack < 5; pack++) {
+            check.due("version(0, " + pack + ")", few.version(0, pack), NONE);
+            check.due("version(1, " + pack + ")", few.version(1, pack), NONE);
+        }
     }
 
     private static void rollsBack(Check check) {
@@ -394,6 +400,11 @@ final class GenerationEdges {
         }
         check.due("current()", desk.current(), 1);
         check.due("rollback(5)", desk.rollback(5), 1);
+        PackageDesk few = Desks.keeping(2);
+        few.collect(1);
+        check.due("rollback(0)", few.rollback(0), NONE);
+        check.due("rollback(1)", few.rollback(1), NONE);
+        check.due("current()", few.current(), 2);
     }
 
     private static void rollbackCounts(Check check) {
@@ -454,6 +465,8 @@ final class GenerationEdges {
         check.due("collect(3), all three", desk.collect(3), 0);
         check.due("collect(2), with the current one besides", desk.collect(2), 0);
         desk.rollback(8);
+        check.due("collect(3), none of them current but 8", desk.collect(3), 0);
+        check.kept(desk, 5, 8, 9);
         check.due("collect(2), the current one among them", desk.collect(2), 1);
         check.kept(desk, 8, 9);
         check.due("collect(1)", desk.collect(1), 0);

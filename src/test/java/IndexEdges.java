@@ -44,6 +44,7 @@ final class IndexEdges {
         document.says(", or range is not good: BAD;", IndexEdges::demandInAWrongRange);
         document.says("the index does not have the version: NONE", IndexEdges::demandOfOneNotThere);
         document.says("it has three demands: FULL.", IndexEdges::aFourthDemand);
+        document.says("it has three demands: FULL.", IndexEdges::threeDemandsOfEveryVersion);
         document.says("Else answers how many it has then.", IndexEdges::demandCounts);
         document.says("(of below 0 is the case of BAD.)", IndexEdges::demandOfBelowZero);
     }
@@ -77,6 +78,7 @@ final class IndexEdges {
             check.noPlan(desk);
             check.noLock(desk);
             check.kept(desk, 0);
+            check.due("collect(1)", desk.collect(1), 0);
             check.due("solutions()", desk.solutions(), 1);
             check.due("unwish(0)", desk.unwish(0), BAD);
             check.due("offer(0, 1, 0)", desk.offer(0, 1, 0), 1);
@@ -401,6 +403,27 @@ final class IndexEdges {
         desk.withdraw(0, 1);
         desk.offer(0, 1, 0);
         check.due("a version that comes anew has room", desk.demand(false, 1, 4, 99), 1);
+    }
+
+    /** All three count, and the fourth does not, whichever version has them. */
+    private static void threeDemandsOfEveryVersion(Check check) {
+        for (int pack = 0; pack < 5; pack++) {
+            for (int version = 1; version <= 9; version++) {
+                PackageDesk desk = new PackageDesk();
+                desk.offer(pack, version, 0);
+                for (int i = 1; i <= 3; i++) {
+                    int other = (pack + i) % 5;
+                    desk.offer(other, 2 * i, 0);
+                    check.due("demand " + i, desk.demand(i != 2, 10 * pack + version, other, 22 * i), i);
+                }
+                check.due("a fourth", desk.demand(true, 10 * pack + version, (pack + 4) % 5, 19), FULL);
+                check.due("it alone takes the first and the third along", desk.solutions(), 9);
+                desk.wish(true, pack, 19);
+                check.due("the first", desk.possible((pack + 1) % 5, 0), 0);
+                check.due("the second", desk.possible((pack + 2) % 5, 4), 0);
+                check.due("the third", desk.possible((pack + 3) % 5, 0), 0);
+            }
+        }
     }
 
     private static void demandCounts(Check check) {

@@ -214,6 +214,22 @@ final class RefusalEdges {
         return desk;
     }
 
+    /** Six generations; the plan and the lock are the newest, which is current, and are not in the index. */
+    private static PackageDesk settled() {
+        PackageDesk desk = Desks.keeping(5);
+        desk.lock();
+        return desk;
+    }
+
+    /** A plan, and steps to it from a generation between others, but no lock. */
+    private static PackageDesk lockless() {
+        PackageDesk desk = Desks.keeping(3);
+        desk.rollback(2);
+        Desks.plan(desk, "60708");
+        desk.withdraw(2, 7);
+        return desk;
+    }
+
     private static Map<String, Twin.Start> starts() {
         Map<String, Twin.Start> starts = new LinkedHashMap<>();
         starts.put("a new desk", PackageDesk::new);
@@ -221,6 +237,8 @@ final class RefusalEdges {
         starts.put("a desk with six kept", RefusalEdges::sixKept);
         starts.put("a hopeless desk", RefusalEdges::hopeless);
         starts.put("a desk with a lock and no plan", RefusalEdges::planless);
+        starts.put("a desk with a plan and no lock", RefusalEdges::lockless);
+        starts.put("a settled desk", RefusalEdges::settled);
         return starts;
     }
 
@@ -300,15 +318,15 @@ final class RefusalEdges {
         PackageDesk desk = new PackageDesk();
         desk.offer(0, 1, 0);
         for (int i = 0; i < 20; i++) {
-            desk.offer(0, 1, 0);
-            desk.offer(0, 0, 0);
-            desk.offer(0, 2, 256);
-            desk.demand(true, 1, 0, 11);
-            desk.demand(true, 2, 1, 11);
-            desk.wish(true, 0, 10);
-            desk.unwish(0);
-            desk.withdraw(0, 2);
-            desk.collect(0);
+            check.due("offer(0, 1, 0)", desk.offer(0, 1, 0), EXISTS);
+            check.due("offer(0, 0, 0)", desk.offer(0, 0, 0), BAD);
+            check.due("offer(0, 2, 256)", desk.offer(0, 2, 256), BAD);
+            check.due("demand(true, 1, 0, 11)", desk.demand(true, 1, 0, 11), BAD);
+            check.due("demand(true, 2, 1, 11)", desk.demand(true, 2, 1, 11), NONE);
+            check.due("wish(true, 0, 10)", desk.wish(true, 0, 10), BAD);
+            check.due("unwish(0)", desk.unwish(0), BAD);
+            check.due("withdraw(0, 2)", desk.withdraw(0, 2), NONE);
+            check.due("collect(0)", desk.collect(0), BAD);
         }
         check.due("offer", desk.offer(0, 2, 0), 2);
         check.due("demand", desk.demand(false, 1, 1, 11), 1);

@@ -31,7 +31,11 @@ final class Sentences {
         for (Sentence sentence : all) {
             check.about(sentence.section + ": " + sentence.words);
             int before = check.asked();
-            sentence.test.on(check);
+            try {
+                sentence.test.on(check);
+            } catch (RuntimeException thrown) {
+                check.holds("no call throws: " + thrown, false);
+            }
             check.holds("the test asks something", check.asked() > before);
         }
         System.out.println(all.size() + " tests of sentences");

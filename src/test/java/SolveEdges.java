@@ -23,6 +23,7 @@ final class SolveEdges {
         document.says("How many solutions there are.", SolveEdges::noSolution);
         document.says("How many solutions there are.", SolveEdges::oneSolution);
         document.says("How many solutions there are.", SolveEdges::mostSolutions);
+        document.says("How many solutions there are.", SolveEdges::solutionsOfNow);
 
         document.section("Promise 10: possible");
         document.says("1 if some solution gives the package the version (0: none), else 0.",
@@ -207,6 +208,24 @@ final class SolveEdges {
         check.due("one version of the last alone", desk.solutions(), 625);
         desk.wish(false, 0, 88);
         check.due("all but one of the first", desk.solutions(), 500);
+    }
+
+    /** What was found before does not count: the index may be another one now. */
+    private static void solutionsOfNow(Check check) {
+        PackageDesk desk = new PackageDesk();
+        for (int pack = 0; pack < 5; pack++) {
+            desk.offer(pack, 5, 0);
+            desk.wish(true, pack, 55);
+            check.due("solve()", desk.solve(), 1);
+            desk.withdraw(pack, 5);
+            check.due("solutions() without the version of the plan", desk.solutions(), 0);
+            desk.offer(pack, 5, 0);
+            check.due("possible(" + pack + ", 5)", desk.possible(pack, 5), 1);
+            desk.withdraw(pack, 5);
+            check.due("solutions() without the version just found", desk.solutions(), 0);
+            desk.unwish(0);
+            check.due("solutions()", desk.solutions(), 1);
+        }
     }
 
     private static void possibleVersions(Check check) {

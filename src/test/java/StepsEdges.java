@@ -30,12 +30,11 @@ final class StepsEdges {
         document.says(rests, StepsEdges::clashesDoNotRest);
         document.says(rests, StepsEdges::everyRangeRests);
         document.says(rests, StepsEdges::restsOnOneThatStays);
-        document.says("and x BUILDS ON y if it rests on it, or rests on one that builds on y.",
-            StepsEdges::everyChain);
-        document.says("and x BUILDS ON y if it rests on it, or rests on one that builds on y.",
-            StepsEdges::chainThroughOneThatStays);
-        document.says("and x BUILDS ON y if it rests on it, or rests on one that builds on y.",
-            StepsEdges::noChainThroughOneWithoutVersion);
+        String builds = "and x BUILDS ON y if it rests on it, or rests on one that builds on y.";
+        document.says(builds, StepsEdges::everyChain);
+        document.says(builds, StepsEdges::chainThroughOneThatStays);
+        document.says(builds, StepsEdges::noChainThroughOneWithoutVersion);
+        document.says(builds, StepsEdges::longWayRound);
         document.says("Two packages that build on each other are in one GROUP", StepsEdges::everyRing);
         document.says(", and every package is in a group with itself.", StepsEdges::groupsOfOne);
         String next = "The groups come one after the other: each time, of those groups all of whose members build"
@@ -314,6 +313,23 @@ final class StepsEdges {
         desk.demand(true, 1, 2, 11);
         desk.demand(true, 21, 4, 11);
         check.steps(desk, 201, 211, 241);
+    }
+
+    /** No two of the three rest on each other; they build on each other by way of the third. */
+    private static void longWayRound(Check check) {
+        PackageDesk desk = Desks.planning("11111");
+        desk.demand(true, 1, 4, 11);
+        desk.demand(true, 41, 2, 11);
+        check.steps(desk, 211, 221, 231, 241, 201);
+        desk.demand(true, 21, 0, 11);
+        check.steps(desk, 201, 221, 241, 211, 231);
+        desk.demand(true, 21, 1, 11);
+        check.steps(desk, 211, 201, 221, 241, 231);
+        PackageDesk stays = between("00001", "11111");
+        stays.demand(true, 1, 4, 11);
+        stays.demand(true, 41, 2, 11);
+        stays.demand(true, 21, 0, 11);
+        check.steps(stays, 201, 221, 211, 231);
     }
 
     /** Rings of two to five packages; a ring comes where its least member stands. */

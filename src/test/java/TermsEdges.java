@@ -72,6 +72,18 @@ final class TermsEdges {
         }
         check.due("call 512, apply(-1)", desk.apply(-1), 255);
 
+        PackageDesk counted = new PackageDesk();
+        counted.offer(2, 7, 0);
+        counted.wish(true, 2, 77);
+        counted.solve();
+        for (int number = 1; number <= 169; number++) {
+            check.due("apply(-1)", counted.apply(-1), number);
+            check.due("current()", counted.current(), number);
+            check.due("rollback(0)", counted.rollback(0), 1);
+        }
+        check.due("rollback(169)", counted.rollback(169), 1);
+        check.due("call 512, version(165, 2)", counted.version(165, 2), 7);
+
         PackageDesk asked = new PackageDesk();
         for (int i = 0; i < 128; i++) {
             check.due("offer(0, 3, 0)", asked.offer(0, 3, 0), 1);
@@ -433,6 +445,11 @@ final class TermsEdges {
         third.offer(2, 1, 2);
         third.offer(4, 1, 3);
         check.due("a third one with paths of both", third.solutions(), 5);
+        PackageDesk apart = new PackageDesk();
+        apart.offer(0, 1, 1);
+        apart.offer(2, 1, 2);
+        apart.offer(4, 1, 1);
+        check.due("a third one between the two", apart.solutions(), 6);
     }
 
     private static void solutionOfFourWishes(Check check) {
@@ -605,11 +622,13 @@ final class TermsEdges {
         }
         for (int pack : Wrong.PACKS) {
             PackageDesk desk = offering(0, 1);
+            desk.offer(2, 1, 0);
             desk.solve();
             desk.lock();
             check.due("offer(" + pack + ", ..)", desk.offer(pack, 1, 0), BAD);
             check.due("withdraw(" + pack + ", ..)", desk.withdraw(pack, 1), BAD);
-            check.due("demand(.., " + pack + ", ..)", desk.demand(true, 1, pack, 11), BAD);
+            check.due("demand(true, 1, " + pack + ", ..)", desk.demand(true, 1, pack, 11), BAD);
+            check.due("demand(true, 21, " + pack + ", ..)", desk.demand(true, 21, pack, 11), BAD);
             check.due("wish(.., " + pack + ", ..)", desk.wish(true, pack, 11), BAD);
             check.due("chosen(" + pack + ")", desk.chosen(pack), BAD);
             check.due("possible(" + pack + ", ..)", desk.possible(pack, 0), BAD);

@@ -88,15 +88,16 @@ final class WishEdges {
         check.due("the first again", desk.wish(true, 4, 99), 0);
     }
 
-    /** Four wishes to have, of which the one for package 3 can't be met. */
+    /** Four wishes to have, each in a range of its own, of which the one for package 3 can't be met. */
     private static PackageDesk fourWishes(int hopeless) {
         PackageDesk desk = new PackageDesk();
         for (int pack = 0; pack < 3; pack++) {
-            desk.offer(pack, 5, 0);
+            desk.offer(pack, pack + 5, 0);
         }
         int met = 0;
         for (int i = 0; i < 4; i++) {
-            desk.wish(true, i == hopeless ? 3 : met++, 55);
+            int pack = i == hopeless ? 3 : met++;
+            desk.wish(true, pack, 11 * (pack + 5));
         }
         return desk;
     }
@@ -107,7 +108,7 @@ final class WishEdges {
             check.due("no solution", desk.solutions(), 0);
             check.due("unwish(" + i + ")", desk.unwish(i), 3);
             check.due("a solution", desk.solve(), 3);
-            check.plan(desk, "55500");
+            check.plan(desk, "56700");
         }
     }
 
