@@ -1,9 +1,14 @@
+import java.io.IOException;
 import java.lang.reflect.Constructor;
 import java.lang.reflect.Field;
 import java.lang.reflect.Method;
 import java.lang.reflect.Modifier;
+import java.nio.file.Files;
+import java.nio.file.Path;
 import java.util.Set;
 import java.util.TreeSet;
+import java.util.regex.Matcher;
+import java.util.regex.Pattern;
 
 /** The document's face and the rules 1, 2, 5 and 10 of LANGUAGE.md, as far as they show in the class. */
 public final class FaceTest {
@@ -13,13 +18,18 @@ public final class FaceTest {
         "locked(int)", "reuse()", "steps()", "step(int)", "apply(int)", "current()", "version(int,int)",
         "rollback(int)", "collect(int)");
     private static final Set<String> CONSTANTS = Set.of("BAD", "EXISTS", "FULL", "NONE");
+    private static final Path DOCUMENT = Path.of("..", "shared", "DOC.md");
 
-    public static void main(String[] args) {
+    public static void main(String[] args) throws IOException {
         Check check = new Check();
         constants(check);
         theClass(check);
         methods(check);
         fields(check);
+        // The lists above stand without the document; where it lies beside them, they are held against it.
+        if (Files.exists(DOCUMENT)) {
+            compareWith(Files.readString(DOCUMENT), check);
+        }
         check.finish();
     }
 
@@ -84,5 +94,37 @@ public final class FaceTest {
         }
         check.holds("the open fields are the document's constants", open.equals(CONSTANTS));
         check.holds("at most forty fields", ofTheObject <= 40);
+    }
+
+    /** What the document declares: the methods of its face, those its promises are about, the constants. */
+    private static void compareWith(String document, Check check) {
+        Set<String> declared = formsIn(document, "(?m)^ *public int (\\w+)\\((.*)\\);$");
+        check.holds("the document's face is as listed: " + declared, declared.equals(FACE));
+        Set<String> promised = formsIn(document, "(?m)^`int (\\w+)\\((.*)\\)`: ");
+        check.holds("each method has its promise: " + promised, promised.equals(FACE));
+        Set<String> constants = new TreeSet<>();
+        Matcher each = Pattern.compile("public static final int (\\w+) = (-?\\d+);").matcher(document);
+        while (each.find()) {
+            constants.add(each.group(1));
+            check.due("the document's " + each.group(1), valueOf(each.group(1)), Integer.parseInt(each.group(2)));
+        }
+        check.holds("the document's constants are as listed", constants.equals(CONSTANTS));
+    }
+
+    private static Set<String> formsIn(String document, String declaration) {
+        Set<String> forms = new TreeSet<>();
+        Matcher each = Pattern.compile(declaration).matcher(document);
+        while (each.find()) {
+            forms.add(each.group(1) + "(" + each.group(2).replaceAll(" \\w+(, )?", "$1").replace(" ", "") + ")");
+        }
+        return forms;
+    }
+
+    private static int valueOf(String constant) {
+        try {
+            return PackageDesk.class.getField(constant).getInt(null);
+        } catch (ReflectiveOperationException missing) {
+            return 0;
+        }
     }
 }

@@ -1,5 +1,6 @@
 import java.util.ArrayList;
 import java.util.List;
+import java.util.Random;
 
 /** The promises 15 and 16: steps, step. */
 final class StepsEdges {
@@ -30,9 +31,11 @@ final class StepsEdges {
         document.says(rests, StepsEdges::clashesDoNotRest);
         document.says(rests, StepsEdges::everyRangeRests);
         document.says(rests, StepsEdges::restsOnOneThatStays);
+        document.says(rests, StepsEdges::needsAmongAllOfThePlan);
         String builds = "and x BUILDS ON y if it rests on it, or rests on one that builds on y.";
         document.says(builds, StepsEdges::everyChain);
         document.says(builds, StepsEdges::chainThroughOneThatStays);
+        document.says(builds, StepsEdges::chainThroughSomeThatStay);
         document.says(builds, StepsEdges::noChainThroughOneWithoutVersion);
         document.says(builds, StepsEdges::longWayRound);
         document.says("Two packages that build on each other are in one GROUP", StepsEdges::everyRing);
@@ -41,6 +44,8 @@ final class StepsEdges {
             + " only on members of the group itself and of groups that came before, the one with the least package;";
         document.says(next, StepsEdges::groupsWait);
         document.says(next, StepsEdges::leastOfTheReady);
+        document.says(next, StepsEdges::leastPackageStays);
+        document.says(next, StepsEdges::onesThatStayWaitToo);
         document.says(next, StepsEdges::allNeedsOfFour);
         document.says(next, StepsEdges::manyNeedsOfFive);
         document.says("the members of a group come with the least package first.", StepsEdges::membersOfAGroup);
@@ -307,6 +312,25 @@ final class StepsEdges {
         check.steps(desk, 211, 201, 241);
     }
 
+    /** Each needs the one before it in the order; only the ends of the chain have a step. */
+    private static void chainThroughSomeThatStay(Check check) {
+        for (int[] order : orders()) {
+            for (int between = 0; between <= 3; between++) {
+                StringBuilder current = new StringBuilder("00000");
+                StringBuilder plan = new StringBuilder("00000");
+                for (int i = 0; i <= between + 1; i++) {
+                    plan.setCharAt(order[i], '1');
+                    current.setCharAt(order[i], i == 0 || i == between + 1 ? '0' : '1');
+                }
+                PackageDesk desk = between(current.toString(), plan.toString());
+                for (int i = 1; i <= between + 1; i++) {
+                    desk.demand(true, 10 * order[i] + 1, order[i - 1], 99);
+                }
+                check.steps(desk, 201 + 10 * order[0], 201 + 10 * order[between + 1]);
+            }
+        }
+    }
+
     private static void noChainThroughOneWithoutVersion(Check check) {
         PackageDesk desk = Desks.planning("11001");
         desk.offer(2, 1, 0);
@@ -405,25 +429,76 @@ final class StepsEdges {
         check.steps(rings, 211, 231, 201, 241, 221);
     }
 
+    /** A group's place goes by its least package, also if this one has no step. */
+    private static void leastPackageStays(Check check) {
+        PackageDesk desk = between("10000", "11010");
+        check.steps(desk, 211, 231);
+        desk.demand(true, 1, 3, 11);
+        desk.demand(true, 31, 0, 11);
+        check.steps(desk, 231, 211);
+        PackageDesk last = between("01000", "11111");
+        last.demand(true, 11, 4, 11);
+        last.demand(true, 41, 1, 11);
+        check.steps(last, 201, 241, 221, 231);
+    }
+
+    /** One that stays is placed in its turn, and not before all others. */
+    private static void onesThatStayWaitToo(Check check) {
+        PackageDesk desk = between("00100", "11110");
+        desk.demand(true, 1, 2, 11);
+        check.steps(desk, 211, 201, 231);
+        desk.demand(true, 21, 3, 11);
+        check.steps(desk, 211, 231, 201);
+    }
+
     /** Needs as a number: bit 4 * x + i is a need of x on the i-th of the others. */
-    private static void compareNeeds(Check check, int needs) {
-        PackageDesk desk = Desks.planning("11111");
+    private static void compareNeeds(Check check, int needs, String current, String plan, int range) {
+        PackageDesk desk = between(current, plan);
         Model model = new Model();
         for (int pack = 0; pack < 5; pack++) {
+            desk.offer(pack, 1, 0);
             model.offer(pack, 1, 0);
         }
-        model.plan = List.of(1, 1, 1, 1, 1);
+        model.kept.put(model.current, given(current));
+        model.plan = given(plan);
         for (int bit = 0; bit < 20; bit++) {
             if ((needs >> bit & 1) != 0) {
                 int x = bit / 4;
                 int y = bit % 4 < x ? bit % 4 : bit % 4 + 1;
-                desk.demand(true, 10 * x + 1, y, 11);
-                model.demand(true, 10 * x + 1, y, 11);
+                desk.demand(true, 10 * x + 1, y, range);
+                model.demand(true, 10 * x + 1, y, range);
             }
         }
+        String state = "from " + current + " to " + plan + ", needs " + Integer.toBinaryString(needs) + ", step(";
         List<Integer> due = model.steps();
-        for (int i = 0; i < 5; i++) {
-            check.due("needs " + Integer.toBinaryString(needs) + ", step(" + i + ")", desk.step(i), due.get(i));
+        for (int i = 0; i < due.size(); i++) {
+            check.due(state + i + ")", desk.step(i), due.get(i));
+        }
+    }
+
+    private static List<Integer> given(String digits) {
+        return digits.chars().mapToObj(digit -> digit - '0').toList();
+    }
+
+    /**
+     * Every way in which each package has no version in the plan, or the one that it has already, or
+     * another one; the current version that goes is 2. What is not in the plan has needs all the same.
+     */
+    private static void needsAmongAllOfThePlan(Check check) {
+        String[] ways = {"00", "20", "01", "11", "21"};
+        Random random = new Random(15);
+        for (int way = 0; way < 3125; way++) {
+            StringBuilder current = new StringBuilder();
+            StringBuilder plan = new StringBuilder();
+            for (int pack = 0, left = way; pack < 5; pack++, left /= 5) {
+                current.append(ways[left % 5].charAt(0));
+                plan.append(ways[left % 5].charAt(1));
+            }
+            for (int i = 0; i < 5; i++) {
+                // Of two sets what they share: with more needs, most packages would be in one group.
+                int needs = random.nextInt(1 << 20) & random.nextInt(1 << 20);
+                compareNeeds(check, needs, current.toString(), plan.toString(), i % 2 == 0 ? 11 : 99);
+            }
         }
     }
 
@@ -434,13 +509,13 @@ final class StepsEdges {
             for (int bit = 0; bit < 12; bit++) {
                 spread |= (needs >> bit & 1) << 4 * (bit / 3) + bit % 3;
             }
-            compareNeeds(check, spread);
+            compareNeeds(check, spread, "00000", "11111", 11);
         }
     }
 
     private static void manyNeedsOfFive(Check check) {
         for (int needs = 0; needs < 1 << 20; needs += 101) {
-            compareNeeds(check, needs);
+            compareNeeds(check, needs, "00000", "11111", 11);
         }
     }
 
